@@ -259,6 +259,26 @@ final class DesignsTest {
     Check.due("product(0, 1, 2)", 151, () -> y.product(0, 1, 2));
     y.block(1, 14);
     Check.due("product(0, 1, 2), 178 blocks", U, () -> y.product(0, 1, 2));
+    productAtItsEdges();
+  }
+
+  private static void productAtItsEdges() {
+    DesignsOffice x = with(31, 7 << 28);
+    x.blank(1, 1);
+    x.blank(2, 6);
+    Check.due("product(0, 1, 3), 31 points", 1, () -> x.product(0, 1, 3));
+    blocksAre(x, 3, 7 << 28);
+    Check.due("product(1, 0, 3), 31 points", 1, () -> x.product(1, 0, 3));
+    Check.due("product(2, 2, 3), 36 points", U, () -> x.product(2, 2, 3));
+    x.blank(4, 5);
+    for (int i = 0; i < 32; i++) {
+      x.block(2, 7);
+    }
+    Check.due("product(4, 2, 3), 160 blocks", 160, () -> x.product(4, 2, 3));
+    Check.due("product(2, 4, 3), 160 blocks", 160, () -> x.product(2, 4, 3));
+    x.block(2, 7);
+    Check.due("product(4, 2, 3), 165 blocks", U, () -> x.product(4, 2, 3));
+    Check.due("product(2, 4, 3), 165 blocks", U, () -> x.product(2, 4, 3));
   }
 
   private static void points() {
@@ -352,6 +372,7 @@ final class DesignsTest {
     Check.due("blocks of all points", false, () -> with(3, 7, 7).isEven(0));
     Check.due("blocks of one point", false, () -> with(3, 1, 2, 4).isEven(0));
     Check.due("blocks of unlike sizes", false, () -> with(3, 3, 5, 6, 7).isEven(0));
+    Check.due("blocks of unlike sizes, but all pairs alike", false, () -> with(3, 3, 7, 5, 6).isEven(0));
     Check.due("one point", false, () -> with(1, 1).isEven(0));
     Check.due("two points", false, () -> with(2, 3).isEven(0));
     Check.due("four triples of four", true, () -> with(4, 7, 11, 13, 14).isEven(0));
@@ -414,6 +435,7 @@ final class DesignsTest {
     Check.due("rest(5, 6)", I, () -> x.rest(5, 6));
     Check.due("rest(5, 0)", N, () -> x.rest(5, 0));
     Check.due("rest(0, 4), a block having all", U, () -> x.rest(0, 4));
+    Check.due("rest, the first block having all", U, () -> with(31, ALL, 1).rest(0, 0));
     nothingHasChanged(x, sum, 8);
   }
 
@@ -436,7 +458,8 @@ final class DesignsTest {
     Check.due("dual(4, 0) without blocks", U, () -> x.dual(4, 0));
     Check.due("dual(2, 0) of 32 blocks", U, () -> x.dual(2, 0));
     nothingHasChanged(x, sum, 8);
-    Check.due("dual of a point in no block", U, () -> with(3, 3).dual(0, 0));
+    Check.due("dual of the last point in no block", U, () -> with(3, 3).dual(0, 0));
+    Check.due("dual of the first point in no block", U, () -> with(3, 6).dual(0, 0));
     Check.due("dual of one block", 1, () -> with(31, ALL).dual(0, 0));
   }
 
@@ -449,6 +472,13 @@ final class DesignsTest {
     Check.due("part(0, 0, false, 2)", 2, () -> x.part(0, 0, false, 2));
     blocksAre(x, 2, 3, 3);
     Check.due("points(2)", 2, () -> x.points(2));
+    Check.due("part(0, 3, false, 2)", 2, () -> x.part(0, 3, false, 2));
+    blocksAre(x, 2, 3, 3);
+    Check.due("part(0, 4, true, 2)", 4, () -> x.part(0, 4, true, 2));
+    blocksAre(x, 2, 22, 6, 9, 22);
+    Check.due("part(0, 1, false, 2)", 4, () -> x.part(0, 1, false, 2));
+    // The points 0, 3 and 4 are 0, 1 and 2.
+    blocksAre(x, 2, 4, 3, 4, 7);
     Check.due("part(0, 2, true, 0), into itself", 1, () -> x.part(0, 2, true, 0));
     blocksAre(x, 0, 3);
     x.block(0, 3);
@@ -485,6 +515,10 @@ final class DesignsTest {
     Check.due("covers of affine(0, 5)", 6, () -> x.covers(0));
     x.projective(0, 5);
     Check.due("covers of projective(0, 5)", 0, () -> x.covers(0));
+    x.affine(0, 3);
+    Check.due("covers of affine(0, 3), behind others", 4, () -> x.covers(0));
+    x.blank(0, 9);
+    Check.due("covers of nothing, behind others", 0, () -> x.covers(0));
     DesignsOffice sixty = with(3);
     for (int i = 0; i < 12; i++) {
       sixty.block(0, new int[] {1, 1, 1, 2, 2, 2, 2, 4, 4, 4, 4, 4}[i]);
@@ -555,7 +589,8 @@ final class DesignsTest {
     Check.due("covers that cross", false, () -> with(2, 1, 1, 2).isParted(0));
     Check.due("another choice than the first", true, () -> with(4, 3, 1, 12, 2, 12, 12, 3, 12, 3).isParted(0));
     Check.due("14 blocks", true, () -> withSingles(2, 7).isParted(0));
-    Check.due("15 blocks", U, () -> withSingles(5, 3).isParted(0));
+    Check.due("14 blocks of one point", true, () -> withSingles(1, 14).isParted(0));
+    Check.due("15 blocks of one point", U, () -> withSingles(1, 15).isParted(0));
     Check.due("64 covers", U, () -> withSingles(6, 2).isParted(0));
     x.affine(0, 3);
     Check.due("a plane with parallels", true, () -> x.isParted(0));
@@ -577,6 +612,9 @@ final class DesignsTest {
       return x.ways(0);
     });
     Check.due("blocks as often as they are there", 2, () -> with(3, 3, 3, 6).ways(0) + with(3, 3, 6, 1, 4, 4).ways(0));
+    Check.due("a pair and a point in it", 1, () -> with(2, 3, 1).ways(0));
+    Check.due("a point and all", 6, () -> with(4, 1, 15).ways(0));
+    Check.due("a path", 2, () -> with(4, 3, 6, 12).ways(0));
     Check.due("eight points", U, () -> with(8).ways(0));
     Check.due("160 blocks", 1, () -> {
       DesignsOffice y = new DesignsOffice();

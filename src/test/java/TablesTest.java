@@ -102,6 +102,26 @@ final class TablesTest {
     nothingHasChanged(x, sum, 6);
   }
 
+  /** In a field, all that a number but 0 is multiplied by becomes unlike, and so do all differences. */
+  private static void fieldIsOne() {
+    DesignsOffice x = new DesignsOffice();
+    PlainOffice plain = new PlainOffice();
+    for (int order : new int[] {2, 3, 4, 5, 7, 8, 9}) {
+      for (int by = 0; by < order; by++) {
+        plain.field(by % 6, order, by);
+        x.field(by % 6, order, by);
+        for (int i = 0; i < order * order; i++) {
+          Check.same("cell " + i + " of field(" + order + ", " + by + ")", plain.cell(by % 6, i / order, i % order),
+              x.cell(by % 6, i / order, i % order));
+        }
+        Check.same("isSquare of field(" + order + ", " + by + ")", by != 0, x.isSquare(by % 6));
+        for (int other = Math.max(1, by - 5); other < by; other++) {
+          Check.same("areApart, " + order + " by " + by + " and " + other, true, x.areApart(by % 6, other % 6));
+        }
+      }
+    }
+  }
+
   private static void setCell() {
     DesignsOffice x = new DesignsOffice();
     slotsAreLookedAt("setCell(, 0, 0, 0)", 6, slot -> x.setCell(slot, 0, 0, 0), N);
@@ -153,6 +173,9 @@ final class TablesTest {
     x.shifts(0, 9, 3, 1);
     Check.due("rows alone", false, () -> x.isSquare(0));
     Check.due("one sign wrong", false, () -> with(new int[] {0, 1}, new int[] {1, 1}).isSquare(0));
+    Check.due("the first sign wrong", false, () -> with(new int[] {1, 1}, new int[] {1, 0}).isSquare(0));
+    Check.due("the first of three wrong", false,
+        () -> with(new int[] {1, 1, 2}, new int[] {1, 2, 0}, new int[] {2, 0, 1}).isSquare(0));
     Check.due("two signs", true, () -> with(new int[] {1, 0}, new int[] {0, 1}).isSquare(0));
   }
 
@@ -232,6 +255,7 @@ final class TablesTest {
       int all = order * order + order;
       Check.due("planeOf of order " + order, all, () -> x.planeOf(set, 5));
       Check.due("isEven(5)", true, () -> x.isEven(5));
+      Check.due("points(5)", all - x.order(5), () -> x.points(5));
       Check.due("the last column", x.bitsOf(5, all - 2) << 1, () -> x.bitsOf(5, all - 1));
     }
     // The first square by its slot is that by 4, whose 0 is at 0 0, 1 1, 2 2, 3 3, 4 4.
@@ -258,6 +282,7 @@ final class TablesTest {
     Check.due("planeOf(19, 0), too many", U, () -> x.planeOf(19, 0));
     Check.due("planeOf(5, 0), no square", U, () -> x.planeOf(5, 0));
     Check.due("planeOf(9, 0), unlike orders", U, () -> x.planeOf(9, 0));
+    Check.due("planeOf(24, 0), unlike orders", U, () -> x.planeOf(24, 0));
     Check.due("planeOf(17, 0), not apart", U, () -> x.planeOf(17, 0));
     nothingHasChanged(x, sum, 5);
     DesignsOffice y = new DesignsOffice();
@@ -388,6 +413,12 @@ final class TablesTest {
     long sum = x.checksum();
     // The row 1 is 1 -1 -1 -1 now.
     Check.due("designOf(0, 0), a block without points", U, () -> x.designOf(0, 0));
+    Check.due("designOf(1, 0), the last block being without points", U, () -> {
+      DesignsOffice y = new DesignsOffice();
+      y.doubled(1, 2);
+      y.flip(1, false, 3);
+      return y.designOf(1, 0);
+    });
     Check.due("designOf(2, 0), two rows", U, () -> x.designOf(2, 0));
     Check.due("designOf(0, -1)", I, () -> x.designOf(0, -1));
     nothingHasChanged(x, sum, 7);
@@ -446,6 +477,7 @@ final class TablesTest {
 
   private static void setting() {
     DesignsOffice x = new DesignsOffice();
+    Check.due("setting(3, 0, 2)", 0, () -> x.setting(3, 0, 2));
     Check.due("setting(3, 4, 0)", 1, () -> x.setting(3, 4, 0));
     Check.due("setting(3, 5, 1)", 0, () -> x.setting(3, 5, 1));
     Check.due("setting(3, 6, 2)", 1, () -> x.setting(3, 6, 2));
@@ -490,6 +522,7 @@ final class TablesTest {
   public static void main(String[] args) {
     Check.test("promise 28: shifts", TablesTest::shifts);
     Check.test("promise 29: field", TablesTest::field);
+    Check.test("promise 29: field is a field", TablesTest::fieldIsOne);
     Check.test("promise 30: setCell", TablesTest::setCell);
     Check.test("promise 31: order", TablesTest::order);
     Check.test("promise 32: cell", TablesTest::cell);
