@@ -276,6 +276,8 @@ final class AskingEdgesTest {
     even(false, "and a block: not without", 3);
     even(false, "the same number of points: the first block has more", 4, 15, 3, 5, 9, 6, 10, 12);
     even(false, "the same number of points: the last block has more", 4, 3, 5, 9, 6, 10, 12, 15);
+    even(false, "the same number of points: the second block has fewer", 3, 3, 1, 5, 6);
+    even(false, "the same number of points: of two blocks one has more", 4, 3, 7);
     even(false, "the same number of points: the last block has fewer", 3, 3, 5, 6, 1);
     even(true, "the same number of points: 2", 4, 3, 5, 9, 6, 10, 12);
     even(true, "the same number of points: all but one", 4, 7, 11, 13, 14);

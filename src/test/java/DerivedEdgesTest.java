@@ -22,6 +22,17 @@ final class DerivedEdgesTest {
     }
   }
 
+  /** One of the 24 orders of 0 to 3. */
+  private static int[] orderOf(int code) {
+    java.util.List<Integer> left = new java.util.ArrayList<>(java.util.List.of(0, 1, 2, 3));
+    int[] order = new int[4];
+    for (int i = 0, rest = code; i < 4; i++) {
+      order[i] = left.remove(rest % (4 - i));
+      rest /= 4 - i;
+    }
+    return order;
+  }
+
   private static void rest() {
     Edge.test("20 rest: the slot, 0 to 5", x -> {
       atBothEnds(x);
@@ -249,6 +260,39 @@ final class DerivedEdgesTest {
       x.design(0, 31, ALL, ALL, ALL);
       x.gives(3, "covers", 0);
     });
+    Edge.test("23 covers: of another slot than those before, with fewer blocks and points", x -> {
+      x.design(1, 2, 3, 1);
+      x.design(2, 3, 4, 3, 7);
+      singles(x, 3, 4, 5);
+      x.gives(60, "covers", 0);
+      x.gives(1, "covers", 1);
+      x.gives(2, "covers", 2);
+      x.gives(60, "covers", 0);
+    });
+    Edge.test("23 covers: a point that one block has, behind a point that more have", x -> {
+      singles(x, 4, 1);
+      x.gives(4, "covers", 0);
+      singles(x, 1, 4);
+      x.gives(4, "covers", 0);
+    });
+    Edge.test("23 covers: by the least number at the first place where they differ", x -> {
+      int[] parts = {1, 6, 3, 4};
+      for (int code = 0; code < 24; code++) {
+        int[] order = orderOf(code);
+        x.takes("blank", 0, 3);
+        for (int i = 0; i < 4; i++) {
+          x.takes("block", 0, parts[order[i]]);
+        }
+        // Both covers have two blocks, and none in common: so that with the block 0 goes ahead.
+        int other = 1;
+        while ((parts[order[0]] | parts[order[other]]) != 7 || (parts[order[0]] & parts[order[other]]) != 0) {
+          other++;
+        }
+        x.gives(0, "coverAt", 0, 0, 0);
+        x.gives(other, "coverAt", 0, 0, 1);
+        x.gives(other == 1 ? 2 : 1, "coverAt", 0, 1, 0);
+      }
+    });
     Edge.test("23 covers: 40 blocks, and more", x -> {
       singles(x, 40);
       x.gives(40, "covers", 0);
@@ -474,6 +518,31 @@ final class DerivedEdgesTest {
     Edge.test("27 ways: one way alone", x -> {
       x.design(0, 3, 1, 3);
       x.gives(1, "ways", 0);
+    });
+    Edge.test("27 ways: one way alone, of 7 points", x -> {
+      singles(x, 0, 1, 2, 3, 4, 5, 6);
+      x.gives(1, "ways", 0);
+      x.design(0, 7, 1, 3, 6, 12, 24, 48, 96);
+      x.gives(1, "ways", 0);
+    });
+    Edge.test("27 ways: two points do not stand at one place", x -> {
+      x.design(0, 3, 3, 5, 7);
+      x.gives(2, "ways", 0);
+      x.design(0, 3, 5, 6, 7);
+      x.gives(2, "ways", 0);
+    });
+    Edge.test("27 ways: a row and a ring of 7 points, and the least plane", x -> {
+      x.design(0, 7, 3, 6, 12, 24, 48, 96);
+      x.gives(2, "ways", 0);
+      x.takes("block", 0, 65);
+      x.gives(14, "ways", 0);
+      x.takes("projective", 0, 2);
+      x.gives(168, "ways", 0);
+    });
+    Edge.test("27 ways: a point stands for another one, but those behind it find no place", x -> {
+      // A row of four points and a ring of three: each end of the row has one neighbour, all others have two.
+      x.design(0, 7, 3, 6, 12, 48, 96, 80);
+      x.gives(12, "ways", 0);
     });
     Edge.test("27 ways: all points in each block", x -> {
       x.design(0, 7, 127, 127);

@@ -336,8 +336,53 @@ final class MakingEdgesTest {
       x.gives(0, "product", 0, 0, 0);
       x.gives(1, "points", 0);
     });
+    productOfTheLeast();
     productPoints();
     productBlocks();
+  }
+
+  private static int bits(int... points) {
+    int bits = 0;
+    for (int point : points) {
+      bits |= 1 << point;
+    }
+    return bits;
+  }
+
+  private static void productOfTheLeast() {
+    Edge.test("9 product: of the least triples by themselves, block by block", x -> {
+      x.takes("bose", 0, 0);
+      x.gives(12, "product", 0, 0, 1);
+      x.gives(9, "points", 1);
+      x.blocksAre(1, 7, 7 << 3, 7 << 6, 73, 73 << 1, 73 << 2, bits(0, 4, 8), bits(0, 5, 7), bits(1, 3, 8),
+          bits(1, 5, 6), bits(2, 3, 7), bits(2, 4, 6));
+      x.gives(true, "isEven", 1);
+    });
+    Edge.test("9 product: blocks without the first point, and with a gap", x -> {
+      x.design(0, 4, 14);
+      x.design(1, 4, 13);
+      x.gives(14, "product", 0, 1, 2);
+      x.gives(16, "points", 2);
+      int spread = bits(4, 8, 12);
+      x.blocksAre(2, 13, 13 << 4, 13 << 8, 13 << 12, spread, spread << 1, spread << 2, spread << 3,
+          bits(4, 10, 15), bits(4, 11, 14), bits(6, 8, 15), bits(6, 11, 12), bits(7, 8, 14), bits(7, 10, 12));
+    });
+    Edge.test("9 product: two blocks of each, by the one and then by the other one", x -> {
+      x.design(0, 4, 7, 14);
+      x.design(1, 4, 11, 13);
+      x.gives(40, "product", 0, 1, 0);
+      x.gives(11, "bitsOf", 0, 0);
+      x.gives(13, "bitsOf", 0, 1);
+      x.gives(13 << 12, "bitsOf", 0, 7);
+      x.gives(bits(0, 4, 8), "bitsOf", 0, 8);
+      x.gives(bits(4, 8, 12), "bitsOf", 0, 9);
+      x.gives(bits(7, 11, 15), "bitsOf", 0, 15);
+      x.gives(bits(0, 5, 11), "bitsOf", 0, 16);
+      x.gives(bits(3, 5, 8), "bitsOf", 0, 21);
+      x.gives(bits(0, 6, 11), "bitsOf", 0, 22);
+      x.gives(bits(4, 9, 15), "bitsOf", 0, 28);
+      x.gives(bits(7, 10, 12), "bitsOf", 0, 39);
+    });
   }
 
   private static void productPoints() {

@@ -57,6 +57,7 @@ final class PastEdgesTest {
     undoAndGoOn();
     undoOfNone();
     undoOfNothing();
+    eachCallKeeps();
   }
 
   private static void undoAndGoOn() {
@@ -204,6 +205,83 @@ final class PastEdgesTest {
       x.gives(1, "undo");
       x.gives(3, "points", 0);
       x.gives(0, "undo");
+    });
+  }
+
+  /** More than eight changes, so that an undo() of one that is not kept would take back one of these. */
+  private static void setUp(Edge x) {
+    x.takes("primes", 2, 3);
+    x.takes("skolem", 5, 1);
+    x.takes("field", 5, 3, 2);
+    x.takes("field", 1, 3, 1);
+    x.takes("bose", 1, 0);
+    x.design(0, 3, 3, 5, 6);
+    x.takes("shifts", 0, 2, 1, 1);
+    x.takes("doubled", 0, 2);
+  }
+
+  /** A call that changes something, and once more; mostly nothing becomes another one by the second call. */
+  private static void keeps(String name, Object... arguments) {
+    Edge.test("52 undo: each call keeps what its slot held: " + name + java.util.Arrays.toString(arguments), x -> {
+      setUp(x);
+      long none = x.checksum();
+      x.types(name.equals("read") ? "3:0,1" : "");
+      x.takes(name, arguments);
+      long once = x.checksum();
+      Check.same("a checksum() that is changed", true, once != none);
+      x.types(name.equals("read") ? "3:0,1" : "");
+      x.takes(name, arguments);
+      x.gives(7, "undo");
+      Check.same("checksum() behind one undo()", once, x.checksum());
+      x.gives(6, "undo");
+      Check.same("checksum() behind two", none, x.checksum());
+    });
+  }
+
+  private static void eachCallKeeps() {
+    keeps("blank", 0, 3);
+    keeps("block", 0, 7);
+    keeps("shift", 0, 3, 1);
+    keeps("affine", 0, 2);
+    keeps("projective", 0, 2);
+    keeps("bose", 0, 1);
+    keeps("skolem", 0, 1);
+    keeps("product", 1, 1, 0);
+    keeps("rest", 0, 3);
+    keeps("dual", 5, 4);
+    keeps("part", 0, 1, true, 4);
+    keeps("part", 0, 1, false, 4);
+    keeps("designOf", 0, 0);
+    keeps("planeOf", 1, 0);
+    keeps("planeOf", 34, 0);
+    keeps("read", 0);
+    keeps("shifts", 0, 2, 0, 0);
+    keeps("field", 0, 9, 3);
+    keeps("setCell", 0, 1, 1, 1);
+    keeps("turn", 5, false, 0);
+    keeps("turn", 5, true, 4);
+    keeps("doubled", 0, 1);
+    keeps("primes", 0, 7);
+    keeps("flip", 0, true, 3);
+    keeps("flip", 0, false, 3);
+    Edge.test("52 undo: the sign that was there already is kept", x -> {
+      x.takes("shifts", 0, 2, 1, 1);
+      x.gives(1, "setCell", 0, 0, 1, 1);
+      x.gives(1, "undo");
+      x.tableIs(0, new int[] {0, 1}, new int[] {1, 0});
+      x.gives(0, "undo");
+      x.refuses(N, "order", 0);
+    });
+    Edge.test("52 undo: a design turned into itself is kept", x -> {
+      x.design(0, 1, 1);
+      x.takes("dual", 0, 0);
+      x.takes("part", 0, 0, true, 0);
+      x.gives(3, "undo");
+      x.blocksAre(0, 1);
+      x.gives(2, "undo");
+      x.blocksAre(0, 1);
+      x.gives(1, "undo");
+      x.blocksAre(0);
     });
   }
 

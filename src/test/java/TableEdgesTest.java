@@ -118,6 +118,31 @@ final class TableEdgesTest {
       x.gives(3, "cell", 0, 7, 0);
       x.gives(4, "cell", 0, 7, 7);
     });
+    Edge.test("29 field: 1 times each number, and each times 1, is this", x -> {
+      for (int order : new int[] {4, 8, 9}) {
+        for (int by = 1; by < order; by++) {
+          x.takes("field", 0, order, by);
+          x.gives(by, "cell", 0, 1, 0);
+        }
+        x.takes("field", 0, order, 1);
+        for (int row = 0; row < order; row++) {
+          x.gives(row, "cell", 0, row, 0);
+        }
+      }
+    });
+    Edge.test("29 field: z z of 4, z z z of 8 and z z of 9", x -> {
+      x.takes("field", 0, 4, 2);
+      x.gives(3, "cell", 0, 2, 0);
+      x.takes("field", 0, 8, 4);
+      x.gives(3, "cell", 0, 2, 0);
+      x.takes("field", 0, 9, 3);
+      x.gives(2, "cell", 0, 3, 0);
+      // z times 2 z, and z times 2 z + 1.
+      x.takes("field", 0, 9, 6);
+      x.gives(1, "cell", 0, 3, 0);
+      x.takes("field", 0, 9, 7);
+      x.gives(4, "cell", 0, 3, 0);
+    });
     Edge.test("29 field: the greatest numbers of 9", x -> {
       x.takes("field", 0, 9, 8);
       // 2 z + 2 by itself is 4 z z + 8 z + 4, which is 2 z, for z z is 2; with 2 z + 2 it is z + 2.
@@ -236,6 +261,8 @@ final class TableEdgesTest {
     square(false, "each sign once in each column, not in each row", new int[] {0, 0}, new int[] {1, 1});
     square(false, "each sign once in each row, not in each column", new int[] {0, 1}, new int[] {0, 1});
     square(false, "the last row is wrong", new int[] {0, 1, 2}, new int[] {1, 2, 0}, new int[] {2, 0, 0});
+    square(false, "the first place alone is wrong", new int[] {1, 1, 2}, new int[] {1, 2, 0}, new int[] {2, 0, 1});
+    square(false, "the last place alone is wrong", new int[] {0, 1, 2}, new int[] {1, 2, 0}, new int[] {2, 0, 2});
     square(false, "the first row is wrong", new int[] {0, 0, 2}, new int[] {1, 2, 0}, new int[] {2, 0, 1});
     Edge.test("33 isSquare: the greatest order", x -> {
       x.takes("shifts", 0, 9, 1, 8);
@@ -385,6 +412,15 @@ final class TableEdgesTest {
       x.takes("shifts", 0, 2, 1, 1);
       x.gives(0, "transversals", 0);
     });
+    Edge.test("36 transversals: the orders between", x -> {
+      int[] want = {3, 0, 15, 0};
+      for (int order = 3; order < 7; order++) {
+        x.takes("shifts", 0, order, 1, 1);
+        x.gives(want[order - 3], "transversals", 0);
+      }
+      x.takes("field", 0, 4, 1);
+      x.gives(8, "transversals", 0);
+    });
     Edge.test("36 transversals: what is documented first is thrown", x -> {
       x.takes("shifts", 0, 8, 0, 0);
       x.refuses(I, "transversals", 6);
@@ -427,6 +463,8 @@ final class TableEdgesTest {
       x.refuses(U, "planeOf", 5, 0);
       x.takes("shifts", 3, 2, 0, 1);
       x.refuses(U, "planeOf", 8, 0);
+      x.takes("shifts", 0, 2, 1, 0);
+      x.refuses(U, "planeOf", 1, 0);
     });
     Edge.test("37 planeOf: their orders differ", x -> {
       x.takes("field", 0, 3, 1);
