@@ -31,6 +31,9 @@ public final class DesignsOffice {
   private static final int OF_TABLES = 1;
   private static final int OF_ROWS = 2;
 
+  /** No sign of a text has this code. */
+  private static final char NO_SIGN = 0;
+
   /** All orders of three places, one behind the other, the lesser place first where two of them differ. */
   private static final int[] ORDERS_OF_THREE = {0, 1, 2, 0, 2, 1, 1, 0, 2, 1, 2, 0, 2, 0, 1, 2, 1, 0};
 
@@ -528,9 +531,9 @@ public final class DesignsOffice {
     if (pastCount < 1) {
       throw new NoSuchElementException();
     }
-    pastNext = pastNext > 0 ? pastNext - 1 : MOST_KEPT - 1;
+    pastNext--;
     pastCount--;
-    Kept kept = past[pastNext];
+    Kept kept = past[Math.floorMod(pastNext, MOST_KEPT)];
     if (kept.kind == OF_DESIGNS) {
       designs[kept.slot].take(kept.design);
     } else if (kept.kind == OF_TABLES) {
@@ -572,7 +575,7 @@ public final class DesignsOffice {
       sum = rows[i].addTo(sum);
     }
     for (int i = 0; i < textLength; i++) {
-      sum = 31 * sum + text[i];
+      sum = 31 * sum + signOfText(i);
     }
     return sum;
   }
@@ -671,7 +674,7 @@ public final class DesignsOffice {
   }
 
   private void keep(int kind, int slot) {
-    Kept kept = past[pastNext];
+    Kept kept = past[Math.floorMod(pastNext, MOST_KEPT)];
     kept.kind = kind;
     kept.slot = slot;
     if (kind == OF_DESIGNS) {
@@ -681,7 +684,7 @@ public final class DesignsOffice {
     } else {
       kept.rows.take(rows[slot]);
     }
-    pastNext = pastNext < MOST_KEPT - 1 ? pastNext + 1 : 0;
+    pastNext++;
     pastCount = Math.min(pastCount + 1, MOST_KEPT);
   }
 
@@ -872,13 +875,14 @@ public final class DesignsOffice {
       } else {
         bits |= 1 << number;
       }
-      if (!isFirst && (end >= textLength || text[end] == ';')) {
+      char next = signOfText(end);
+      if (!isFirst && (next == NO_SIGN || next == ';')) {
         into.add(bits);
         bits = 0;
-      } else if (end < textLength && text[end] != (isFirst ? ':' : ',')) {
+      } else if (next != NO_SIGN && next != (isFirst ? ':' : ',')) {
         return end;
       }
-      if (end >= textLength) {
+      if (next == NO_SIGN) {
         return -1;
       }
       place = end + 1;
@@ -894,9 +898,14 @@ public final class DesignsOffice {
     return number < points && !hasBit(bits, number);
   }
 
+  /** The sign at a place of the text, or NO_SIGN where it has none. */
+  private char signOfText(int place) {
+    return place < 0 || place >= textLength || place >= MOST_SIGNS ? NO_SIGN : text[place];
+  }
+
   private int endOfDigits(int place) {
-    int end = Math.max(place, 0);
-    while (end < textLength && text[end] >= '0' && text[end] <= '9') {
+    int end = place;
+    while (end < textLength && signOfText(end) >= '0' && signOfText(end) <= '9') {
       end++;
     }
     return end;
@@ -904,9 +913,9 @@ public final class DesignsOffice {
 
   private int numberAt(int place, int end) {
     int number = 0;
-    for (int i = Math.max(place, 0); i < end && i < textLength; i++) {
+    for (int i = place; i < end; i++) {
       // What is above all points stays so, however many digits follow.
-      number = Math.min(10 * number + (text[i] - '0'), MOST_POINTS + 1);
+      number = Math.min(10 * number + (signOfText(i) - '0'), MOST_POINTS + 1);
     }
     return number;
   }
@@ -1313,9 +1322,24 @@ public final class DesignsOffice {
       long choices = search.fewestChoices(open, free);
       for (int i = 0; i < search.blockCount; i++) {
         if ((choices >>> i & 1L) != 0) {
+          int before = search.count;
           extend(search, open & ~search.bits[i], free & ~search.meeting[i], chosen | 1L << i, depth + 1);
+          if (search.count == before) {
+            // Where one block leads nowhere, none with the same points leads anywhere.
+            choices &= ~search.blocksLike(i);
+          }
         }
       }
+    }
+
+    private long blocksLike(int block) {
+      long like = 0L;
+      for (int i = 0; i < blockCount; i++) {
+        if (bits[i] == bits[block]) {
+          like |= 1L << i;
+        }
+      }
+      return like;
     }
 
     /** The blocks for the open point that has the fewest: so what leads nowhere ends soon. */

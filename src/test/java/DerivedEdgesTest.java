@@ -260,6 +260,28 @@ final class DerivedEdgesTest {
       x.design(0, 31, ALL, ALL, ALL);
       x.gives(3, "covers", 0);
     });
+    Edge.test("23 covers: of blocks that are alike, where some are in none", x -> {
+      x.design(0, 4, 3, 3, 1, 14, 3, 14, 1, 1);
+      x.gives(6, "covers", 0);
+      x.gives(2, "coverAt", 0, 0, 0);
+      x.gives(3, "coverAt", 0, 0, 1);
+      x.gives(5, "coverAt", 0, 5, 0);
+      x.gives(7, "coverAt", 0, 5, 1);
+      x.takes("block", 0, 12);
+      x.gives(9, "covers", 0);
+      x.gives(4, "coverAt", 0, 6, 0);
+      x.gives(8, "coverAt", 0, 6, 1);
+    });
+    Edge.test("23 covers: of 40 blocks, many of them alike, that leave three points over", x -> {
+      x.takes("blank", 0, 31);
+      for (int i = 0; i < 34; i++) {
+        x.takes("block", 0, 3 << 2 * (i % 14));
+      }
+      for (int i = 0; i < 6; i++) {
+        x.takes("block", 0, (7 << 28) - (1 << 28 + i % 3));
+      }
+      x.gives(0, "covers", 0);
+    });
     Edge.test("23 covers: of another slot than those before, with fewer blocks and points", x -> {
       x.design(1, 2, 3, 1);
       x.design(2, 3, 4, 3, 7);
